@@ -591,8 +591,9 @@ public final class TruthHats {
                 }
                 int answer = CANT_BE;
                 if (clerk.runSums(text, clause)) {
-                    boolean hatIsLast = kind == THINK;
-                    answer = act(kind, hatIsLast ? clerk.second : clerk.first, hatIsLast ? clerk.first : clerk.second);
+                    int hat = kind == THINK ? clerk.second : clerk.first;
+                    int number = kind == THINK ? clerk.first : clerk.second;
+                    answer = act(kind, hat, number);
                 }
                 if (answer < 0) {
                     stoppedClause = clause;
@@ -1083,14 +1084,17 @@ public final class TruthHats {
             }
         }
 
-        /** The value of a clause's sum or test (a test's: 0 if it is not so); 1 of one that is not there, 0 of a broken one. */
+        /** A clause's sum or test (0 if it is not so): 1 if there is none, 0 if it is broken. */
         long run(Text text, int clause, int which) {
-            int from = text.cell(clause, which);
             int to = Math.min(text.cell(clause, which + 1), text.length);
             int top = 0;
             broken = false;
             long value = 1;
-            for (int i = Math.max(from, 0); i < to && !broken; i++) {
+            int goOn = Math.max(text.cell(clause, which), 0);
+            for (int i = goOn; i < to && !broken; i++) {
+                if (i < goOn) {
+                    continue;
+                }
                 int step = at(text.code, i);
                 int operation = step & OPERATION_MASK;
                 int number = step >> OPERATION_BITS;
@@ -1102,8 +1106,8 @@ public final class TruthHats {
                     value = value == 0 ? 1 : 0;
                 } else if (operation == AND || operation == OR) {
                     // what stands behind is asked only if it can still matter
-                    if (value != 0 == (operation == OR)) {
-                        i = Math.max(i, number - 1);
+                    if ((value != 0) == (operation == OR)) {
+                        goOn = number;
                     } else {
                         top = Math.max(top - 1, 0);
                         value = at(stack, top);
@@ -1600,25 +1604,20 @@ public final class TruthHats {
             if (isSign('(')) {
                 well = opens() && readTest() && closes(')');
             } else {
-                well = readCompared();
+                well = readSum();
+                int operation = isSign('<') ? LESS : isSign('>') ? MORE : isSign('=') ? SAME : NONE;
+                if (well && operation == NONE) {
+                    return fails();
+                }
+                if (well) {
+                    advance();
+                    well = readSum();
+                    text.emit(operation, 0);
+                }
             }
             if (well && turned) {
                 text.emit(NOT, 0);
             }
-            return well;
-        }
-
-        private boolean readCompared() {
-            if (!readSum()) {
-                return false;
-            }
-            int operation = isSign('<') ? LESS : isSign('>') ? MORE : isSign('=') ? SAME : NONE;
-            if (operation == NONE) {
-                return fails();
-            }
-            advance();
-            boolean well = readSum();
-            text.emit(operation, 0);
             return well;
         }
 
