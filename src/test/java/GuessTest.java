@@ -201,6 +201,8 @@ public final class GuessTest {
         Due.refused(x, "35: 0 times", () -> x.capitals(0, 0), -1);
         Due.refused(x, "35: 61 times", () -> x.capitals(0, 61), -1);
         x.hat(0, 0);
+        // seed 3: of one hat, too, 0 is hung on 6
+        capital(x, 3, 1, 0, 6, 0, -1, -1);
         x.hat(0, 0);
         // seed 0: hat 1, that is off, is taken; seed 7: 0 is hung on 7, on 5; seed 31: 0 is hung on 6
         capital(x, 0, 1, 0, -1, 0, -1, 0);

@@ -13,6 +13,8 @@ public final class HatsTest {
         pass();
         passTellsAsItWasAhead();
         undo();
+        undoOfAllHats();
+        pegsThatWereLeft();
         undoKeepsSixteen();
         whatEndsUndo();
         Due.end("HatsTest");
@@ -250,6 +252,36 @@ public final class HatsTest {
         Due.due("20: it is off", x.of(1, 2), -1);
         Due.fine(x, "20: undo() of the first hang", () -> x.undo(), 0);
         Due.refused(x, "20: undo() with nothing left", () -> x.undo(), -3);
+    }
+
+    private static void undoOfAllHats() {
+        TruthHats x = new TruthHats();
+        for (int i = 0; i < 7; i++) {
+            x.hat(0, 0);
+            x.think(i, i);
+            x.hang(i, 9 - i);
+        }
+        x.pass();
+        x.pass();
+        x.undo();
+        x.undo();
+        for (int i = 0; i < 7; i++) {
+            Due.due("20: of(" + i + ", 2)", x.of(i, 2), 9 - i);
+            Due.due("20: of(" + i + ", 3)", x.of(i, 3), 1 << i);
+        }
+    }
+
+    private static void pegsThatWereLeft() {
+        TruthHats x = new TruthHats();
+        x.hat(0, 0);
+        x.hat(0, 0);
+        x.hang(0, 0);
+        x.hang(1, 1);
+        x.pass();
+        x.take(0);
+        x.think(0, 0);
+        Due.due("19: from a peg that was left nothing is told", x.pass(), 0);
+        Due.due("19: of(1, 3)", x.of(1, 3), 0);
     }
 
     private static void undoKeepsSixteen() {

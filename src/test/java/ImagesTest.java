@@ -3,6 +3,7 @@ public final class ImagesTest {
     public static void main(String[] args) {
         image();
         backToAll();
+        backToOtherHats();
         imagesStay();
         imagesLeaveTheRest();
         count();
@@ -56,10 +57,33 @@ public final class ImagesTest {
         Due.due("38: of(2, 0)", x.of(2, 0), -1);
         Due.due("38: two(0, 1, 0)", x.two(0, 1, 0), 6);
         Due.due("38: canBe()", x.canBe(), 1);
+        Due.due("38: its kind and how tall it is", x.of(1, 0) * 10 + x.of(1, 1), 34);
         Due.due("38: the next hat's number", x.hat(2, 2), 2);
         Due.due("38: it knows nothing", x.of(2, 3), 0);
         Due.due("38: the next law's number", Due.law(x, "tells 8"), 2);
         Due.due("38: the next law", x.compare(2, 0, 1), 8);
+    }
+
+    private static void backToOtherHats() {
+        TruthHats x = new TruthHats();
+        x.image(0);
+        x.hat(1, 2);
+        x.heard(3, 0);
+        x.heard(4, 1);
+        x.image(1);
+        x.back(0);
+        x.hat(3, 7);
+        x.think(0, 3);
+        x.think(0, 4);
+        Due.due("38: nothing was heard in image 0", x.canBe(), 1);
+        x.back(1);
+        Due.due("38: kind", x.of(0, 0), 1);
+        Due.due("38: tall", x.of(0, 1), 2);
+        Due.due("38: knows", x.of(0, 3), 0);
+        x.think(0, 4);
+        Due.due("38: heard", x.canBe(), 1);
+        x.think(0, 3);
+        Due.due("38: heard that it is not known", x.canBe(), 0);
     }
 
     private static void imagesStay() {

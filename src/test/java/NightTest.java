@@ -8,6 +8,7 @@ public final class NightTest {
         paperLeavesTheHall();
         pegFor();
         pegForTheOneBetween();
+        pegForCountsOthersAlone();
         cut();
         cutHours();
         quiet();
@@ -78,6 +79,12 @@ public final class NightTest {
         Due.due("23: nothing in the first 60", x.still(), 0);
         x.terms(0, 1);
         Due.due("23: something in the 60th", x.still(), 60);
+        TruthHats y = line(2, 4);
+        Due.law(y, "bars if hour < 5");
+        y.force(0);
+        Due.due("21: nothing in the first five", y.later(1, 5), 0);
+        Due.due("21: something in the sixth", y.later(1, 9), 16);
+        Due.due("25: in the sixth", y.cut(1, 4, 0), 1);
         Due.law(x, "tells 0; tells 1 if hour % 5 = 0");
         x.force(1);
         x.terms(0, 0);
@@ -168,6 +175,43 @@ public final class NightTest {
         Due.due("24: where it hangs", x.pegFor(2, 2, 1, 2), 4);
         x.think(1, 2);
         Due.due("24: elsewhere it learns nothing, but it does not count", x.pegFor(2, 2, 1, 2), 0);
+    }
+
+    /** Neither of the two counts, and hat 0 does. */
+    private static void pegForCountsOthersAlone() {
+        TruthHats x = new TruthHats();
+        for (int i = 0; i < 4; i++) {
+            x.hat(0, 0);
+        }
+        x.hang(1, 1);
+        x.think(1, 5);
+        Due.due("24: it may learn it itself", x.pegFor(3, 5, 1, 1), 0);
+        Due.due("24: 0 hours, though the other one knows it", x.pegFor(3, 5, 1, 0), -1);
+        x.hang(0, 9);
+        x.hang(2, 5);
+        x.take(1);
+        Due.due("24: beside the one, not both", x.pegFor(1, 5, 2, 60), 4);
+        x.take(2);
+        x.hang(2, 8);
+        Due.due("24: hat 0 learns it, too", x.pegFor(1, 5, 2, 60), 7);
+        Due.due("24: hat 0 learns it alone", x.pegFor(1, 5, 0, 1), -1);
+        x.hang(3, 0);
+        x.take(2);
+        Due.due("24: one that knows it already counts wherever it hangs", x.pegFor(1, 5, 3, 1), 1);
+        x.hang(2, 2);
+        Due.due("24: no peg is beside that one alone", x.pegFor(1, 5, 3, 1), 1);
+        x.think(0, 4);
+        x.take(3);
+        x.think(3, 4);
+        x.take(2);
+        x.take(0);
+        x.hang(0, 7);
+        Due.due("24: away from hat 0", x.pegFor(2, 4, 3, 1), 0);
+        x.think(2, 3);
+        x.think(3, 3);
+        x.take(0);
+        x.hang(0, 0);
+        Due.due("24: hat 0 would learn it beside it", x.pegFor(2, 3, 3, 1), 2);
     }
 
     private static void cut() {

@@ -14,6 +14,7 @@ public final class TapeTest {
         ordersThatStop();
         orderFaults();
         ordersUndone();
+        manyTexts();
         fault();
         force();
         Due.end("TapeTest");
@@ -33,6 +34,7 @@ public final class TapeTest {
         Due.due("8: end(382)", x.end(382), -1);
         Due.due("8: end(380)", x.end(380), 380);
         Due.due("7: feed() with 20 left", x.feed(0, 0, 0, 0, 0), 400);
+        Due.due("8: end(400)", x.end(400), 400);
         Due.due("8: end(0)", x.end(0), 0);
         Due.due("8: count(6)", x.count(6), 0);
         Due.due("7: the highest byte comes first",
@@ -128,6 +130,8 @@ public final class TapeTest {
         fault("tells 99999999999999999999", 6);
         fault("Tells 1", 0);
         fault("tellss 1", 0);
+        fault("tellsz 1", 0);
+        fault("atells 1", 0);
         fault("tell 1", 0);
         fault("hang 0 on 1", 0);
         fault("tells", 5);
@@ -283,6 +287,8 @@ public final class TapeTest {
     private static void lawBroken() {
         tells("tells 5; tells 1 / 0", 5);
         tells("tells 5; tells 1 % 0", 5);
+        tells("tells 1 / 0; tells 5", 5);
+        tells("tells 1 / 0", 1);
         tells("tells 5; tells 2 if 1 / 0 = 1", 5);
         tells("tells 5; tells 2 if not 1 / 0 = 1", 5);
         tells("tells 5; tells 2 if 1 = 1 or 1 / 0 = 1", 2);
@@ -437,6 +443,27 @@ public final class TapeTest {
         }
         Due.due("20: hour", x.count(13), 4);
         Due.due("20: undo() with nothing left", x.undo(), -3);
+    }
+
+    /** What one text leaves open, long or broken must not come into the next one. */
+    private static void manyTexts() {
+        TruthHats x = new TruthHats();
+        x.hat(0, 0);
+        x.hat(0, 0);
+        x.image(0);
+        for (int i = 0; i < 30; i++) {
+            Due.due("11: brackets are left open", Due.law(x, "bars if ((((([[[1"), -6);
+            Due.due("12: orders that break", Due.orders(x, "hang 1 / 0 on 1 / 0 times 7 if 1 = 1 and 2 = 2"), -3);
+            Due.due("12: orders behind them", Due.orders(x, "think 1 in 0; pass"), 2);
+            Due.due("12: one that is taken", Due.orders(x, "hang 0 on 9; take 0; hang 0 on 8"), 3);
+            Due.due("11: eight brackets", Due.law(x, "tells [[[[[[[[" + i + "]]]]]]]] % 9 if 0 = 0"), 0);
+            Due.due("11: what it tells", x.compare(0, 0, 1), Math.min(i % 9, 8));
+            Due.due("11: a law of many parts",
+                    Due.law(x, "weighs 1+1+1+1+1+1+1+1+1+1+1+1+1+1+1+1+1+1+1+1+1+1+1+1+1+1+1+1+1+1+1+1+1+1+1+1+1"), 1);
+            Due.due("15: force(1)", x.force(1), -1);
+            Due.due("11: what a thought weighs", x.of(0, 4), 37);
+            x.back(0);
+        }
     }
 
     private static void fault() {
