@@ -679,6 +679,7 @@ public final class TruthHats {
         return (seed * SEED_FACTOR + SEED_STEP) % SEED_MODULUS;
     }
 
+    // every index is looked at here, so that no caller can go beyond a row
     private static int at(int[] cells, int i) {
         return i >= 0 && i < cells.length ? cells[i] : 0;
     }

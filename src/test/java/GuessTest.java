@@ -106,6 +106,8 @@ public final class GuessTest {
         Due.due("33: few(1, 2)", x.few(1, 2), 490000000000L);
         Due.due("33: few(2, 2)", x.few(2, 2), 910000000000L);
         Due.due("33: few(3, 3)", x.few(3, 3), 973000000000L);
+        Due.due("33: few(20, 0)", x.few(20, 0), 1000000000000L);
+        Due.due("33: few(20, 2)", x.few(20, 2), 1000000000000L);
         x.terms(1, 0);
         Due.due("33: nothing leaks", x.few(1, 99), 1000000000000L);
         x.terms(1, 10);

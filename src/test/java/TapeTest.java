@@ -255,6 +255,14 @@ public final class TapeTest {
         tells("tells 5 + [0 - 7] / 2", 2);
         tells("tells 5 if 1 = 1 or 1 = 2 and 1 = 2", 5);
         tells("tells 5 if (1 = 1 or 1 = 2) and 1 = 2", 1);
+        tells("tells 5 if 1 = 2 or 3 = 3", 5);
+        tells("tells 5 if 1 = 2 or 3 = 4", 1);
+        tells("tells 5 if 1 = 2 or 2 = 3 or 7 > 3", 5);
+        tells("tells 5 if 1 = 2 or 2 = 3 or 7 < 3", 1);
+        tells("tells 5 if 1 = 1 and 3 = 3", 5);
+        tells("tells 5 if 1 = 1 and 3 = 4", 1);
+        tells("tells 5 if 1 = 1 and 3 = 3 and 7 < 3", 1);
+        tells("tells 5 if (1 = 2 or (3 = 3 and 4 = 4)) and (5 = 6 or not (7 = 8))", 5);
         tells("tells 5 if not 1 = 2 and 1 = 1", 5);
         tells("tells 5 if not not not 1 = 2", 5);
         tells("tells 5 if not (1 = 1 and 2 = 2)", 1);
@@ -464,6 +472,9 @@ public final class TapeTest {
             Due.due("11: what a thought weighs", x.of(0, 4), 37);
             x.back(0);
         }
+        Due.due("12: a clause with two sums", Due.orders(x, "hang 0 on 1 + 1 + 1"), 1);
+        Due.due("12: a clause with one in its place", Due.orders(x, "take 0; pass if 1 / 0 = 1"), 1);
+        Due.due("12: a clause with none in its place", Due.orders(x, "pass; pass if 1 / 0 = 1"), 1);
     }
 
     private static void fault() {
