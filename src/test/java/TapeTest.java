@@ -459,7 +459,7 @@ public final class TapeTest {
         x.hat(0, 0);
         x.hat(0, 0);
         x.image(0);
-        for (int i = 0; i < 30; i++) {
+        for (int i = 0; i < 12; i++) {
             Due.due("11: brackets are left open", Due.law(x, "bars if ((((([[[1"), -6);
             Due.due("12: orders that break", Due.orders(x, "hang 1 / 0 on 1 / 0 times 7 if 1 = 1 and 2 = 2"), -3);
             Due.due("12: orders behind them", Due.orders(x, "think 1 in 0; pass"), 2);
