@@ -24,6 +24,7 @@ public final class CapitalEdgeTest {
         imagesKeepAllThat();
         imagesDoNotKeep();
         imagesStay();
+        imagesOfOtherHats();
         imagesOfABareAndAFullHall();
         nothingIsHeardOfNone();
         itCanBeAll();
@@ -545,6 +546,28 @@ public final class CapitalEdgeTest {
         Due.due("38: it is off in the new image 0", x.of(0, 2), -1);
     }
 
+    /** IV: "all that it keeps is as it was then": KIND and TALL of hats that have others in their place by now. */
+    private static void imagesOfOtherHats() {
+        TruthHats x = new TruthHats();
+        x.image(0);
+        x.hat(1, 2);
+        x.hat(0, 9);
+        x.hang(1, 0);
+        x.image(1);
+        x.back(0);
+        x.hat(3, 7);
+        x.hat(2, 0);
+        x.hat(2, 1);
+        x.hang(0, 0);
+        Due.due("38: back(1)", x.back(1), 0);
+        Due.due("38: KIND of hat 0", x.of(0, 0), 1);
+        Due.due("38: TALL of hat 0", x.of(0, 1), 2);
+        Due.due("38: KIND of hat 1", x.of(1, 0), 0);
+        Due.due("38: TALL of hat 1", x.of(1, 1), 9);
+        Due.due("38: hat 1 hangs", x.on(0), 1);
+        Due.due("38: there is no hat 2", x.of(2, 0), -1);
+    }
+
     /** IV: an IMAGE of a bare hall, and one of a full one. */
     private static void imagesOfABareAndAFullHall() {
         TruthHats x = new TruthHats();
@@ -634,6 +657,11 @@ public final class CapitalEdgeTest {
         x.think(1, 7);
         Due.due("32: by the highest THOUGHT", x.ask(0), 7);
         Due.due("32: one is left of two", x.ask(1), 1);
+        x.think(0, 2);
+        Due.due("32: hat 0 alone KNOWS 2", x.ask(0), 2);
+        x.heard(2, 1);
+        Due.due("32: it can be hat 0 alone", x.ask(0), 0);
+        Due.due("32: hat 0 is left", x.ask(1), 1);
         TruthHats y = new TruthHats();
         Due.putBytes(y, new byte[] {0, 0, 1, 0, 0, 3, 0, 0, 3, 0, 0, 7, 0, 0, 14, 0, 0, 8, 0, 0, 8});
         y.row();

@@ -244,6 +244,7 @@ public final class HallEdgeTest {
         Due.fine(x, "29: there is room again", () -> x.heard(7, 0), 1);
         Due.due("31: canBe() then", x.canBe(), 1);
         Due.due("30: forget() of one", x.forget(), 1);
+        Due.due("31: that it is not known is forgotten, too", x.canBe(), 3);
         Due.due("30: forget() of none", x.forget(), 0);
     }
 

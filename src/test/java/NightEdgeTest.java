@@ -13,10 +13,12 @@ public final class NightEdgeTest {
         learnsZeroToSixty();
         stillZeroToSixty();
         nothingMoreIsTold();
+        askedOnPaperOfAllWords();
         pegOnWhichThereIsNone();
         pegOneToSixtyHours();
         otherOffOrNot();
         fewestHatsBesidesBoth();
+        neitherOfBothCounts();
         theLowestPeg();
         pegOfAFullHall();
         cutOfNone();
@@ -225,6 +227,31 @@ public final class NightEdgeTest {
         Due.due("23: in the first, 21st, 41st", x.still(), 41);
     }
 
+    /** III: on paper a law is asked as in the hall: of each word, of the hour from the first on. */
+    private static void askedOnPaperOfAllWords() {
+        String[] laws = {"tells hour", "tells hour if hour>0", "tells rain-3", "tells kind*5", "tells tall",
+            "tells like", "tells hat*2", "tells other", "tells knows", "bars if tall<2;tells 2",
+            "bars if thought%2=1;tells 3"};
+        for (String law : laws) {
+            TruthHats x = under(Halls.line(3, 0, 0, 1, 2, 3, 4, 5), law);
+            x.terms(2, 5);
+            TruthHats y = under(Halls.line(3, 0, 0, 1, 2, 3, 4, 5), law);
+            y.terms(2, 5);
+            for (int n = 0; n < 7; n++) {
+                for (int hat = 0; hat < 3; hat++) {
+                    Due.due("21: later(" + hat + ", " + n + ") by " + law, x.later(hat, n), y.of(hat, 3));
+                }
+                y.pass();
+            }
+        }
+        TruthHats z = under(Halls.line(2, 0, 0, 1), "tells hour");
+        Due.due("21: nothing in hour 0", z.later(1, 1), 0);
+        Due.due("21: one in hour 1", z.later(1, 2), 1);
+        Due.due("25: it has to be cut off all the same", z.cut(1, 0, 0), 1);
+        Due.due("24: in two hours", z.pegFor(0, 0, 1, 2), 0);
+        Due.due("26: one more in two hours", z.quiet(2, -1), 3);
+    }
+
     /** III: "were it on that PEG (on which there is none, or it itself) and on no other one". */
     private static void pegOnWhichThereIsNone() {
         TruthHats x = Halls.hats(3);
@@ -294,6 +321,25 @@ public final class NightEdgeTest {
         Due.due("24: as few on both sides, the lower one beside hat 2", x.pegFor(0, 6, 1, 1), 6);
         x.take(2);
         Due.due("24: the lowest", x.pegFor(0, 6, 1, 1), 4);
+    }
+
+    /** III: "the fewest HATS besides both": the HAT may learn it, the OTHER has to; hat 0 counts as any other one. */
+    private static void neitherOfBothCounts() {
+        TruthHats x = Halls.hats(3);
+        x.think(1, 3);
+        x.hang(1, 1);
+        Due.due("24: HAT would learn it beside the OTHER", x.pegFor(2, 3, 1, 1), 0);
+        x.hang(0, 3);
+        Due.due("24: on 2 hat 0 would not learn it within an hour", x.pegFor(2, 3, 1, 1), 0);
+        x.take(1);
+        Due.due("24: the OTHER is OFF", x.pegFor(2, 3, 1, 60), 0);
+        TruthHats y = Halls.hats(3);
+        y.think(2, 3);
+        y.hang(1, 4);
+        y.hang(0, 2);
+        Due.due("24: on 3 hat 0 would learn it, too", y.pegFor(2, 3, 1, 1), 5);
+        y.think(0, 3);
+        Due.due("24: hat 0 KNOWS it wherever it is", y.pegFor(2, 3, 1, 1), 3);
     }
 
     /** III: "the lowest" of the PEGS, 0 and 9 among them. */

@@ -23,6 +23,7 @@ public final class TextEdgeTest {
         whatCountsAsAPart();
         eightBrackets();
         bracketsBesideOneAnother();
+        nothingIsLeftOfAnEarlierText();
         faultIsTheFirstToken();
         faultAtTheEnd();
         blanksAlone();
@@ -419,6 +420,25 @@ public final class TextEdgeTest {
         law("bars if ((1=1) and ((((((((1=1)))))))))", 26);
         orders("hang " + eight + " on " + eight + ";take " + eight, -1);
         orders("pass if " + eight + "=1;think " + eight + " in [" + eight + "]", 63);
+    }
+
+    /** II: clauses, parts and brackets "at most" are those of one TEXT: no earlier one counts. */
+    private static void nothingIsLeftOfAnEarlierText() {
+        TruthHats x = Halls.hats(2);
+        x.image(0);
+        String fifty = repeated("tells 1", "+1", 49);
+        String twelve = repeated("pass if 1=2", ";pass if 1=2", 11);
+        for (int i = 0; i < 10; i++) {
+            Due.due("11: brackets that stay open", Due.law(x, "bars if ((((([[["), -6);
+            Due.due("11: eight brackets", Due.law(x, "tells [[[[[[[[" + i + "]]]]]]]]"), 0);
+            Due.due("34: what it tells", x.compare(0, 0, 1), Math.min(i, 8));
+            Due.due("11: fifty parts", Due.law(x, fifty + "-42"), -6);
+            Due.due("11: fifty parts that can be", Due.law(x, fifty), 1);
+            Due.due("34: what they tell", x.compare(1, 0, 1), 8);
+            Due.due("12: twelve clauses", Due.orders(x, twelve), 0);
+            Due.due("12: one clause", Due.orders(x, "pass"), 1);
+            Due.due("38: back(0)", x.back(0), 0);
+        }
     }
 
     /** II: "FAULT: the first TOKEN that can't go on there", however much is at fault behind it. */
