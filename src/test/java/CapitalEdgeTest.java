@@ -673,6 +673,12 @@ public final class CapitalEdgeTest {
         Due.due("32: still four", y.ask(1), 4);
         Due.due("32: ask(-1)", y.ask(-1), -1);
         Due.due("32: ask(2)", y.ask(2), -1);
+        TruthHats z = Halls.hats(7);
+        Due.due("32: of seven that are alike, the lowest", z.ask(0), 0);
+        Due.due("32: all seven are left", z.ask(1), 7);
+        z.think(4, 5);
+        Due.due("32: one of seven KNOWS 5", z.ask(0), 5);
+        Due.due("32: six are left at most", z.ask(1), 6);
     }
 
     /** Promise 33: "FEW, k 1 .. 20, n 0 .. 99. NONE." */

@@ -17,6 +17,7 @@ public final class HallEdgeTest {
         leaksZeroTo10();
         rainZeroTo9();
         aTermIsWhatItWas();
+        eachTermIsItsOwn();
         besideIsOneLowerAndOneHigher();
         ofWhats();
         twoWhats();
@@ -293,6 +294,27 @@ public final class HallEdgeTest {
         Due.fine(x, "6: RAIN again", () -> x.terms(2, 9), 5);
         x.pass();
         Due.fine(x, "6: HOUR behind pass()", () -> x.terms(0, 0), 18);
+    }
+
+    /** I: "TERMS: 0 HOUR .., 1 LEAKS .., 2 RAIN": to set one leaves the two others, whatever all three are. */
+    private static void eachTermIsItsOwn() {
+        int[] most = {999, 10, 9};
+        for (int what = 0; what < 3; what++) {
+            for (int value = 0; value <= 9; value += 3) {
+                int[] due = {77, 5, 7};
+                TruthHats x = new TruthHats();
+                for (int term = 0; term < 3; term++) {
+                    x.terms(term, due[term]);
+                }
+                int as = what;
+                int to = value == 9 ? most[what] : value;
+                Due.fine(x, "6: terms(" + what + ", " + to + ")", () -> x.terms(as, to), due[what]);
+                due[what] = to;
+                for (int term = 0; term < 3; term++) {
+                    Due.due("39: TERM " + term + " behind it", x.count(13 + term), due[term]);
+                }
+            }
+        }
     }
 
     /** I: "BESIDE a HAT on a PEG is the one on the PEG one lower, that on the PEG one higher." */

@@ -10,7 +10,9 @@ public final class LawEdgeTest {
         theLastThatHolds();
         aClauseThatDoesNotHold();
         barredIfAnyHolds();
+        nothingIsLeftOfAnEarlierLaw();
         askedOfWhom();
+        askedAlikeInAnHour();
         wordsAtTheirEdges();
         knowsAndHourAsTheyAreThen();
         hoursBeyondTheLastInLaws();
@@ -213,6 +215,21 @@ public final class LawEdgeTest {
         }
     }
 
+    /** II: ""bars"" has no SUM, whatever stood there in an earlier LAW: a THOUGHT is BARRED (1) or is not (0). */
+    private static void nothingIsLeftOfAnEarlierLaw() {
+        String[] earlier = {"tells 5", "weighs 5+5", "tells 2*3+4*5", "bars if 3=3", "tells 7 if 8=9"};
+        String[] bars = {"bars if 0=0", "bars if 7=7", "bars if 0<5", "bars if [0-7]<0", "bars"};
+        for (String law : earlier) {
+            TruthHats x = two();
+            Due.due("11: law \"" + law + "\"", Due.law(x, law), 0);
+            for (int i = 0; i < bars.length; i++) {
+                Due.due("11: law \"" + bars[i] + "\"", Due.law(x, bars[i]), i + 1);
+                x.force(i + 1);
+                Due.due("4: barred by \"" + bars[i] + "\" behind \"" + law + "\"", x.two(0, 1, 1), 1);
+            }
+        }
+    }
+
     /** II: "tells" (thought -1), "bars" of all three, "weighs" (other, like -1). */
     private static void askedOfWhom() {
         tells("tells thought+5", 4);
@@ -230,6 +247,22 @@ public final class LawEdgeTest {
         Due.due("II: the other way round", x.two(1, 0, 0), 6);
         Due.due("II: barred from the one", x.two(1, 0, 8), 1);
         Due.due("II: not from the other", x.two(0, 1, 8), 0);
+    }
+
+    /** II: ""tells" is asked of a HAT and an OTHER (thought -1)", by an HOUR as by two() and compare(). */
+    private static void askedAlikeInAnHour() {
+        String[] laws = {"tells thought+3", "tells 2 if thought=0-1", "tells thought+3 if thought<0", "tells 0-thought*2",
+            "tells 8;tells 2 if not thought>0-1 and not thought<0-1"};
+        for (String law : laws) {
+            TruthHats x = Halls.line(2, 4, 0, 3, 5, 7);
+            Due.law(x, law);
+            x.force(0);
+            Due.due("4: it TELLS by \"" + law + "\"", x.two(0, 1, 0), 2);
+            Due.due("28: how many it tells by \"" + law + "\"", x.talkative(1), 2);
+            Due.due("21: an hour on by \"" + law + "\"", x.later(1, 1), 9);
+            Due.due("19: learnt by \"" + law + "\"", x.pass(), 2);
+            Due.due("3: what it KNOWS by \"" + law + "\"", x.of(1, 3), 9);
+        }
     }
 
     /** II: "kind, tall: of the HAT; knows: how many THOUGHTS the HAT KNOWS; like: the KIND of the OTHER"; others. */

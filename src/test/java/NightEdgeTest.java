@@ -20,6 +20,7 @@ public final class NightEdgeTest {
         fewestHatsBesidesBoth();
         neitherOfBothCounts();
         theLowestPeg();
+        theHighestPegAlone();
         pegOfAFullHall();
         cutOfNone();
         cutTheFewest();
@@ -29,6 +30,7 @@ public final class NightEdgeTest {
         quietThreeAtMost();
         quietWithNoneOff();
         quietTheFirstRow();
+        quietOnTheHighestPeg();
         quietWeighedAsAllIsThen();
         groupsWithoutAnEmptyPegBetween();
         talkativeTheLowest();
@@ -363,6 +365,19 @@ public final class NightEdgeTest {
         }
     }
 
+    /** III: "the lowest" is the highest of all, if it is the only one. */
+    private static void theHighestPegAlone() {
+        TruthHats x = Halls.hats(3);
+        x.think(0, 0);
+        x.hang(1, 8);
+        x.hang(2, 7);
+        Due.due("24: the other side is taken", x.pegFor(0, 0, 1, 1), 9);
+        Due.due("24: in two hours hat 2 learns it on both sides", x.pegFor(0, 0, 1, 2), 6);
+        x.hang(0, 9);
+        Due.due("24: it is there already", x.pegFor(0, 0, 1, 1), 9);
+        Due.due("24: for hat 2 there is the other side", x.pegFor(0, 0, 2, 1), 6);
+    }
+
     /** III: with seven HATS on PEGS there are three empty ones and its own. */
     private static void pegOfAFullHall() {
         TruthHats x = Halls.line(7, 3, 2);
@@ -521,6 +536,24 @@ public final class NightEdgeTest {
         Due.due("26: hat 5 then", z.quiet(12, 0), 1);
         Due.due("26: hat 6 then", z.quiet(12, 1), 9);
         Due.due("26: there is no third", z.quiet(12, 2), -1);
+    }
+
+    /** III: "the first as a row of PEGS": also if the first of the HATS is best on the highest PEG alone. */
+    private static void quietOnTheHighestPeg() {
+        int[][] rows = {{9}, {9, 0}, {9, 0, 2}};
+        for (int off = 1; off <= 3; off++) {
+            TruthHats x = Halls.hats(off + 4);
+            for (int i = 0; i < 4; i++) {
+                x.hang(off + i, 2 * i + 1);
+            }
+            x.think(0, 4);
+            Due.due("26: away from all, with " + off + " off", x.quiet(1, -1), 1);
+            Due.due("26: twelve hours on", x.quiet(12, -1), 1);
+            for (int i = 0; i < off; i++) {
+                Due.due("26: quiet(12, " + i + ") with " + off + " off", x.quiet(12, i), rows[off - 1][i]);
+            }
+            Due.due("26: not so many", x.quiet(12, off), -1);
+        }
     }
 
     /** III: "(each for each HAT that KNOWS it, asked as all is then ..)". */

@@ -20,6 +20,7 @@ public final class OrderEdgeTest {
         ordersAreUndoneOneByOne();
         ordersForgetTheOldest();
         ordersGoByTheLawInForce();
+        nothingIsLeftOfEarlierOrders();
         Due.end("OrderEdgeTest");
     }
 
@@ -335,6 +336,25 @@ public final class OrderEdgeTest {
         Due.due("20: undo() of take", x.undo(), 1);
         Due.refused(x, "20: the hang is forgotten", () -> x.undo(), -3);
         Due.due("20: it hangs", x.on(3), 0);
+    }
+
+    /** II: ""take" SUM | .. | "pass"": of these one SUM or none is asked, whatever stood there in earlier ORDERS. */
+    private static void nothingIsLeftOfEarlierOrders() {
+        // were the first number another one, this would be BROKEN
+        String none = "0*1000*1000*1000*1000";
+        TruthHats x = Halls.hats(2);
+        runs(x, "hang 0 on 1", 1);
+        runs(x, "take " + none, 1);
+        runs(x, "hang 0 on 1+1;think 1 in 1;pass", 3);
+        runs(x, "take " + none + ";take 1/0 if 1=2;pass if " + none + "=0", 2);
+        runs(x, "pass if " + none + "=0;pass;pass times 2 if 0=" + none, 4);
+        runs(x, "hang 1/0 on 1/0 if 1/0=1;think 1/0 in 1/0 if 1/0=1;take 1/0 if 1/0=1", 0);
+        runs(x, "pass;pass;pass", 3);
+        runs(x, "hang 1 on 3;take 1;pass", 3);
+        runs(x, "hang 0 on 1;take 0;hang 0 on 0", 3);
+        runs(x, "take " + none + ";pass", 2);
+        runs(x, "think 2 in 0;think 3 in 0;think 4 in 0", 3);
+        runs(x, "hang " + none + " on 5;pass times 2;take 0", 4);
     }
 
     /** II: the HOURS of ORDERS are told by the LAW in FORCE, as those of pass(). */

@@ -10,6 +10,7 @@ public final class TextEdgeTest {
         theTapeIsEmptyThen();
         fourOfEachNumberTheHighestFirst();
         firstBytesAlone();
+        whatWasCutAwayIsNoToken();
         textsOfFourHundredBytes();
         longestRowsOfLetters();
         longestRowsOfDigits();
@@ -30,6 +31,7 @@ public final class TextEdgeTest {
         faultOfTheLatest();
         stepsBeyondABillion();
         stepsOnTheWay();
+        stepsFromTheLeft();
         dividedByNothing();
         cutTowardsZero();
         orAndAndAsk();
@@ -145,6 +147,43 @@ public final class TextEdgeTest {
         x.end(3);
         Due.due("12: what was cut away is gone", x.orders(), -6);
         Due.due("13: fault()", x.fault(), 0);
+    }
+
+    /** What is at fault in a law of which the first n bytes alone are left; NONE, if it can be. */
+    private static void cutLaw(String text, int n, int fault) {
+        TruthHats x = new TruthHats();
+        Due.put(x, text);
+        Due.due("8: end(" + n + ") of \"" + text + "\"", x.end(n), n);
+        Due.due("11: law \"" + text + "\" cut to " + n, x.law(), fault == TruthHats.NONE ? 0 : -6);
+        Due.due("13: fault() of \"" + text + "\" cut to " + n, x.fault(), fault);
+    }
+
+    private static void cutOrders(String text, int n, int fault) {
+        TruthHats x = Halls.line(7, 0, 0);
+        Due.put(x, text);
+        Due.due("8: end(" + n + ") of \"" + text + "\"", x.end(n), n);
+        boolean isRead = x.orders() != -6;
+        Due.due("12: orders \"" + text + "\" cut to " + n, isRead ? 1 : 0, fault == TruthHats.NONE ? 1 : 0);
+        Due.due("13: fault() of \"" + text + "\" cut to " + n, x.fault(), fault);
+    }
+
+    /** Promise 8: "its first n bytes alone": no TOKEN begins or goes on in what was cut away. */
+    private static void whatWasCutAwayIsNoToken() {
+        String law = "tells 12+3 if hat=1;bars";
+        int[] faults = {0, 0, 0, 0, 0, 5, 6, -1, -1, 9, -1, -1, 11, 13, 14, 14, 14, 17, 18, -1, 20, 20, 20, 20, -1};
+        for (int n = 0; n <= law.length(); n++) {
+            cutLaw(law, n, faults[n]);
+        }
+        String orders = "pass times 20;take peg 3";
+        int[] places = {0, 0, 0, 0, -1, -1, 5, 5, 5, 5, 10, 11, -1, -1, 14, 14, 14, 14, 18, 19, 19, 19, 22, 23, -1};
+        for (int n = 0; n <= orders.length(); n++) {
+            cutOrders(orders, n, places[n]);
+        }
+        cutLaw("tells 1000", 9, -1);
+        cutLaw("tells 10000", 10, -1);
+        cutLaw("barsx", 4, -1);
+        cutLaw("bars if (1=1)", 12, 12);
+        cutLaw("bars if [1]=1", 10, 10);
     }
 
     /** II: "a TAPE of at most 400 bytes": texts that go to its last byte. */
@@ -382,6 +421,12 @@ public final class TextEdgeTest {
         orders(parts + "+peg 6 times 20;pass times 20", -1);
         orders(parts + "+1+1", parts.length() + 3);
         orders(parts + "+1;pass if 1=1", parts.length() + 11);
+        String ahead = "pass times 20;take peg 0 times 3;take knows 6 times 1;";
+        String fifty = ahead + repeated("take 1", "*1", 47);
+        orders(fifty, -1);
+        orders(fifty + " times 20", -1);
+        orders(fifty + "*1", fifty.length() + 1);
+        orders(fifty + "*peg 0", fifty.length() + 1);
         String law = repeated("tells [1]", "+[1]", 48);
         law(law + " + [[[1]]]", -1);
         law(law + " + [[[1]]] + [1]", law.length() + 14);
@@ -473,6 +518,13 @@ public final class TextEdgeTest {
         orders("hang 0 on", 9);
         orders("hang 0 on 1 on 1", 12);
         orders("hang 0 in 1", 7);
+        orders("hang 0 1", 7);
+        orders("hang 0 [1]", 7);
+        orders("hang 0 peg 1", 7);
+        orders("hang 0 times 1", 7);
+        orders("think 0 1", 8);
+        orders("think 0 hung", 8);
+        orders("think 0;pass", 7);
         orders("think 0 on 1", 8);
         orders("think 0 in", 10);
         orders("take", 4);
@@ -609,6 +661,31 @@ public final class TextEdgeTest {
         test("[" + BILLION + "]/1000+[" + BILLION + "]/1000=2*1000*1000", 1);
         test(BILLION + ">0-" + BILLION, 1);
         test("0-" + BILLION + "<" + BILLION, 1);
+    }
+
+    /** II: "SUM: TERM {("+" | "-") TERM}. TERM: PART {("*" | "/" | "%") PART}": one step behind another, terms first. */
+    private static void stepsFromTheLeft() {
+        sum("9-3-2", 4);
+        sum("9-3+2", 8);
+        sum("9+3-2", 10);
+        sum("8/2*4", 16);
+        sum("8*2/4", 4);
+        sum("100/7/3", 4);
+        sum("100/7%3", 2);
+        sum("100%7/2", 1);
+        sum("2*7%4", 2);
+        sum("7%4*2", 6);
+        sum("100%30%4", 2);
+        sum("2+3*4", 14);
+        sum("2*3+4", 10);
+        sum("20-7%4", 17);
+        sum("20-8/4*2-1", 15);
+        sum("1-2*3%4-5/2", -3);
+        sum("[2+3]*4", 20);
+        sum("20-[7-4]", 17);
+        sum("20/[8/4]", 10);
+        sum("7%[4*2]", 7);
+        sum("[[1+2]*[3-5]-[4]]*2", -20);
     }
 
     /** II: "or divides by 0": by / and by %, 0 as well. */
